@@ -207,7 +207,7 @@ public final class OmegaDesk {
             System.arraycopy(other.followers, 0, followers, 0, LETTERS * SETS);
         }
 
-        /** Puts another one's states behind the own ones; state 0 gets the edges of the other one's state 0 too. */
+        /** Puts another one's states behind the own ones; state 0 gets the edges of the other state 0 too. */
         void append(Automaton other) {
             int shift = size;
             for (int number = 0; number < other.size; number++) {
@@ -324,7 +324,7 @@ public final class OmegaDesk {
             return ends(passage, 0);
         }
 
-        /** The ends of ways with the passage's words one behind another, one or more of them; good ends are not kept up. */
+        /** The ends of ways with the passage's words one behind another, one or more; good ends are not kept up. */
         static int chained(int passage) {
             int chain = passage;
             for (int between = 0; between < MOST_STATES; between++) {
@@ -349,7 +349,7 @@ public final class OmegaDesk {
                     cores |= 1 << from;
                 }
             }
-            int taken = cores;
+            int taken = 0;
             for (int from = 0; from < MOST_STATES; from++) {
                 if ((ends(chain, from) & cores) != 0) {
                     taken |= 1 << from;
@@ -360,7 +360,7 @@ public final class OmegaDesk {
 
         private static boolean comesBack(int chain, int set, int goal) {
             for (int from = 0; from < MOST_STATES; from++) {
-                if ((set >> from & 1) != 0 && (from == goal || (ends(chain, from) >> goal & 1) != 0)) {
+                if ((set >> from & 1) != 0 && (ends(chain, from) >> goal & 1) != 0) {
                     return true;
                 }
             }
@@ -524,7 +524,7 @@ public final class OmegaDesk {
         }
     }
 
-    /** The passages of all words of up to eight letters; a word's place is its number with a bit 1 put before it. */
+    /** The passages of all words of up to eight letters; a word's place is its number with a bit 1 before it. */
     private static final class WordTable {
         private static final int PLACES = 2 << LONGEST;
 
@@ -548,7 +548,7 @@ public final class OmegaDesk {
         }
     }
 
-    /** Finds the first lasso of at most eight letters, in the order of witnesses, that one automaton takes and another does not. */
+    /** Finds the first lasso, in the order of witnesses, that one automaton takes and another does not. */
     private static final class LassoFinder {
         private final WordTable innerWords = new WordTable();
         private final WordTable outerWords = new WordTable();
