@@ -1,76 +1,5 @@
 /** Promise by promise: ordinary calls, the edges that the document names, and wrong inputs. */
-public final class PromisesTest {
-    private static final int[] NO_AUTOMATON = {-1, 6, Integer.MIN_VALUE, Integer.MAX_VALUE};
-    private static int wrong = 0;
-
-    interface Call {
-        Object run();
-    }
-
-    private static void due(String what, Object want, Call call) {
-        Object got;
-        try {
-            got = call.run();
-        } catch (RuntimeException e) {
-            got = e.getClass().getSimpleName();
-        }
-        if (!want.equals(got)) {
-            wrong++;
-            System.out.println(what + " answered " + got + ", due is " + want);
-        }
-    }
-
-    private static void refused(String what, Call call) {
-        due(what, "IllegalArgumentException", call);
-    }
-
-    private static void full(String what, Call call) {
-        due(what, "IllegalStateException", call);
-    }
-
-    private static void noWitness(String what, OmegaDesk x) {
-        for (int i = 0; i < 4; i++) {
-            int part = i;
-            due(what + ": witness(" + i + ")", "NoSuchElementException", () -> x.witness(part));
-        }
-    }
-
-    private static void witness(String what, OmegaDesk x, int m, int u, int n, int v) {
-        due(what + ": witness(0)", m, () -> x.witness(0));
-        due(what + ": witness(1)", u, () -> x.witness(1));
-        due(what + ": witness(2)", n, () -> x.witness(2));
-        due(what + ": witness(3)", v, () -> x.witness(3));
-    }
-
-    /** Builds an automaton: 'g' for a good state and '-' for another, then edges of three digits, from letter to. */
-    private static void build(OmegaDesk x, int automaton, String states, int... edges) {
-        x.clear(automaton);
-        for (char c : states.toCharArray()) {
-            x.state(automaton, c == 'g');
-        }
-        for (int e : edges) {
-            x.edge(automaton, e / 100, e / 10 % 10, e % 10);
-        }
-    }
-
-    private static String told(OmegaDesk x, int automaton) {
-        StringBuilder text = new StringBuilder();
-        int n = x.states(automaton);
-        for (int s = 0; s < n; s++) {
-            text.append(x.good(automaton, s) ? 'g' : '-');
-        }
-        for (int f = 0; f < n; f++) {
-            for (int l = 0; l < 2; l++) {
-                for (int t = 0; t < n; t++) {
-                    if (x.has(automaton, f, l, t)) {
-                        text.append(' ').append(f).append(l).append(t);
-                    }
-                }
-            }
-        }
-        return text.toString();
-    }
-
+public final class PromisesTest extends Checks {
     private static void newObject() {
         OmegaDesk x = new OmegaDesk();
         for (int i = 0; i < 6; i++) {
@@ -124,8 +53,8 @@ public final class PromisesTest {
 
     private static void clear() {
         OmegaDesk x = new OmegaDesk();
-        build(x, 0, "gg", 0, 10, 1);
-        build(x, 1, "g", 0);
+        build(x, 0, "gg 000 010 001");
+        build(x, 1, "g 000");
         x.clear(0);
         due("4: states", 0, () -> x.states(0));
         due("4: empty", true, () -> x.empty(0));
@@ -144,9 +73,9 @@ public final class PromisesTest {
 
     private static void unite() {
         OmegaDesk x = new OmegaDesk();
-        build(x, 0, "g", 0);
-        build(x, 1, "-g", 11, 101, 110);
-        build(x, 2, "gggg", 0, 311);
+        build(x, 0, "g 000");
+        build(x, 1, "-g 011 101 110");
+        build(x, 2, "gggg 000 311");
         due("5: three and one", 4, () -> x.unite(0, 1, 2));
         due("5: the union", "-g-g 001 013 101 213 303 312", () -> told(x, 2));
         due("5: other order", 4, () -> x.unite(1, 0, 3));
@@ -180,21 +109,21 @@ public final class PromisesTest {
     private static void trim() {
         OmegaDesk x = new OmegaDesk();
         due("6: no states", 0, () -> x.trim(0));
-        build(x, 0, "-g-g", 11, 101, 2, 202, 303);
+        build(x, 0, "-g-g 011 101 002 202 303");
         due("6: one dead, one not reached", 2, () -> x.trim(0));
         due("6: what is left", "-g 011 101", () -> told(x, 0));
-        build(x, 0, "--g-", 3, 12, 202, 213, 312, 303);
+        build(x, 0, "--g- 003 012 202 213 312 303");
         due("6: a gap in the middle", 3, () -> x.trim(0));
         due("6: they keep their order", "-g- 002 011 101 112 202 211", () -> told(x, 0));
-        build(x, 0, "g-", 1, 101);
+        build(x, 0, "g- 001 101");
         due("6: good, but leads not to itself", 0, () -> x.trim(0));
         due("6: state 0 goes, all go", "", () -> told(x, 0));
-        build(x, 0, "-g", 101, 111);
+        build(x, 0, "-g 101 111");
         due("6: no way from state 0", 0, () -> x.trim(0));
-        build(x, 0, "-g-g", 1, 102, 200, 13);
+        build(x, 0, "-g-g 001 102 200 013");
         due("6: a long way to itself", 3, () -> x.trim(0));
         due("6: without the end", "-g- 001 102 200", () -> told(x, 0));
-        build(x, 0, "g", 10);
+        build(x, 0, "g 010");
         due("6: nothing to go", 1, () -> x.trim(0));
         due("6: it stays", "g 010", () -> told(x, 0));
         for (int a : NO_AUTOMATON) {
@@ -207,13 +136,13 @@ public final class PromisesTest {
         due("7: no states", true, () -> x.empty(0));
         build(x, 0, "g");
         due("7: no edges", true, () -> x.empty(0));
-        build(x, 0, "-", 0, 10);
+        build(x, 0, "- 000 010");
         due("7: no good state", true, () -> x.empty(0));
-        build(x, 0, "g-", 1, 101);
+        build(x, 0, "g- 001 101");
         due("7: good just once", true, () -> x.empty(0));
-        build(x, 0, "-g", 101, 100);
+        build(x, 0, "-g 101 100");
         due("7: good not reached", true, () -> x.empty(0));
-        build(x, 0, "---g", 1, 112, 203, 310);
+        build(x, 0, "---g 001 112 203 310");
         due("7: a cycle of four", false, () -> x.empty(0));
         due("7: it is as it was", "---g 001 112 203 310", () -> told(x, 0));
         for (int a : NO_AUTOMATON) {
@@ -223,23 +152,23 @@ public final class PromisesTest {
 
     private static void takes() {
         OmegaDesk x = new OmegaDesk();
-        build(x, 0, "-g", 0, 10, 11, 111);
+        build(x, 0, "-g 000 010 011 111");
         due("8: ones at the end", true, () -> x.takes(0, 8, 0b10100100, 8, 255));
         due("8: a nought again and again", false, () -> x.takes(0, 8, 255, 8, 254));
-        build(x, 0, "-g", 0, 11, 100, 111);
+        build(x, 0, "-g 000 011 100 111");
         due("8: a one again and again", true, () -> x.takes(0, 0, 0, 8, 1));
         due("8: only noughts behind u", false, () -> x.takes(0, 8, 255, 8, 0));
-        build(x, 0, "--g", 11, 102, 202);
+        build(x, 0, "--g 011 102 202");
         due("8: the first letter is the highest bit", true, () -> x.takes(0, 2, 2, 1, 0));
         due("8: not the lowest", false, () -> x.takes(0, 2, 1, 1, 0));
         due("8: in v too", false, () -> x.takes(0, 0, 0, 2, 1));
-        build(x, 0, "g--", 1, 112, 200);
+        build(x, 0, "g-- 001 112 200");
         due("8: v three times", true, () -> x.takes(0, 0, 0, 3, 2));
         due("8: v wrapped", true, () -> x.takes(0, 2, 1, 3, 1));
         due("8: v of other length", false, () -> x.takes(0, 0, 0, 2, 1));
-        build(x, 0, "g--", 1, 102, 200);
+        build(x, 0, "g-- 001 102 200");
         due("8: a cycle that v does not fit", true, () -> x.takes(0, 0, 0, 2, 0));
-        build(x, 0, "g-", 1, 101);
+        build(x, 0, "g- 001 101");
         due("8: good at the beginning alone", false, () -> x.takes(0, 0, 0, 1, 0));
         due("8: no states", false, () -> x.takes(1, 8, 0, 8, 0));
         for (int bad : new int[] {-1, 9, 32, Integer.MIN_VALUE, Integer.MAX_VALUE}) {
@@ -261,9 +190,9 @@ public final class PromisesTest {
 
     private static void included() {
         OmegaDesk x = new OmegaDesk();
-        build(x, 0, "g", 0, 10);
-        build(x, 1, "-g", 0, 10, 11, 111);
-        build(x, 2, "-g", 0, 11, 100, 111);
+        build(x, 0, "g 000 010");
+        build(x, 1, "-g 000 010 011 111");
+        build(x, 2, "-g 000 011 100 111");
         due("9: ones at the end, ones again and again", true, () -> x.included(1, 2));
         due("9: not back", false, () -> x.included(2, 1));
         due("9: in all", true, () -> x.included(2, 0));
@@ -272,12 +201,12 @@ public final class PromisesTest {
         due("9: nothing in nothing", true, () -> x.included(4, 5));
         due("9: nothing in all", true, () -> x.included(5, 0));
         due("9: all in nothing", false, () -> x.included(0, 5));
-        build(x, 3, "-", 0, 10);
+        build(x, 3, "- 000 010");
         due("9: all in an empty one", false, () -> x.included(0, 3));
         due("9: an empty one in nothing", true, () -> x.included(3, 5));
-        build(x, 3, "-gg", 1, 12, 101, 102, 111, 112, 201, 202, 211, 212);
+        build(x, 3, "-gg 001 012 101 102 111 112 201 202 211 212");
         due("9: all in three states", true, () -> x.included(0, 3));
-        build(x, 3, "gggg", 0, 10);
+        build(x, 3, "gggg 000 010");
         due("9: four states inside", true, () -> x.included(3, 0));
         full("9: four states outside", () -> x.included(0, 3));
         full("9: nothing in four states", () -> x.included(5, 3));
@@ -293,25 +222,25 @@ public final class PromisesTest {
     private static void witness() {
         OmegaDesk x = new OmegaDesk();
         noWitness("10: none yet", x);
-        build(x, 0, "g", 0, 10);
-        build(x, 1, "-g", 0, 10, 11, 111);
-        build(x, 2, "-g", 0, 11, 100, 111);
+        build(x, 0, "g 000 010");
+        build(x, 1, "-g 000 010 011 111");
+        build(x, 2, "-g 000 011 100 111");
         x.included(0, 1);
         witness("10: v alone", x, 0, 0, 1, 0);
         x.included(2, 1);
         witness("10: the least number", x, 0, 0, 2, 1);
         x.included(1, 2);
         noWitness("10: the latest answered true", x);
-        build(x, 3, "---g", 1, 112, 213, 303);
+        build(x, 3, "---g 001 112 213 303");
         x.included(3, 4);
         witness("10: u is needed", x, 3, 3, 1, 0);
-        build(x, 3, "---g", 1, 102, 213, 303);
+        build(x, 3, "---g 001 102 213 303");
         x.included(3, 4);
         witness("10: noughts before", x, 3, 1, 1, 0);
-        build(x, 3, "-g", 11, 101, 110);
+        build(x, 3, "-g 011 101 110");
         x.included(3, 4);
         witness("10: fewest letters before fewest in u", x, 0, 0, 1, 1);
-        build(x, 3, "-g", 11, 100);
+        build(x, 3, "-g 011 100");
         x.included(3, 4);
         witness("10: fewest in u", x, 0, 0, 2, 2);
         build(x, 5, "gggg");
@@ -330,8 +259,8 @@ public final class PromisesTest {
     private static void longWitness(OmegaDesk x) {
         // The first takes rows of 01 and 11 with 1 0 1 1 1 .. behind them; the least that the second lacks of
         // these has nine letters.
-        build(x, 0, "-g-g", 2, 11, 12, 103, 210, 313);
-        build(x, 1, "-gg", 1, 2, 10, 101, 112, 211, 212);
+        build(x, 0, "-g-g 002 011 012 103 210 313");
+        build(x, 1, "-gg 001 002 010 101 112 211 212");
         due("10: not included", false, () -> x.included(0, 1));
         noWitness("10: more than 8 letters", x);
         due("10: the first takes nine letters", true, () -> x.takes(0, 8, 0b01010110, 1, 1));
@@ -340,7 +269,7 @@ public final class PromisesTest {
 
     private static void readers() {
         OmegaDesk x = new OmegaDesk();
-        build(x, 5, "-g", 11);
+        build(x, 5, "-g 011");
         due("11: states", 2, () -> x.states(5));
         due("11: of another", 0, () -> x.states(0));
         due("12: not good", false, () -> x.good(5, 0));
@@ -376,9 +305,6 @@ public final class PromisesTest {
         included();
         witness();
         readers();
-        System.out.println(wrong == 0 ? "all answers are as due" : wrong + " answers are not as due");
-        if (wrong != 0) {
-            System.exit(1);
-        }
+        end();
     }
 }
