@@ -89,8 +89,8 @@ public final class OmegaDesk {
         if (outer.size >= MOST_STATES) {
             throw new IllegalStateException("the second automaton has 4 states");
         }
-        finder.forget();
         if (!refuter.refutes(inner, outer)) {
+            finder.forget();
             return true;
         }
         finder.search(inner, outer);

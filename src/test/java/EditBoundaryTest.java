@@ -79,6 +79,14 @@ public final class EditBoundaryTest extends Checks {
             full("the fifth, not good", () -> x.state(0, false));
             due("the others are free", 0, () -> x.state(1, true));
         });
+        test("2: IllegalStateException: the 4 states stay good or not as they were", x -> {
+            for (String text : new String[] {"----", "gggg"}) {
+                build(x, 0, text);
+                full("a good one", () -> x.state(0, true));
+                full("one not good", () -> x.state(0, false));
+                due("the 4", text, () -> told(x, 0));
+            }
+        });
         test("2: there is room again behind clear, trim and unite", x -> {
             build(x, 0, "-g-- 001 101");
             full("four", () -> x.state(0, true));

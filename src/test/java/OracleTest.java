@@ -20,10 +20,11 @@ public final class OracleTest {
     private static final int NO_ELEMENT = -1_000_003;
 
     /**
-     * Pairs whose witness has more than 8 letters: the targets, as bits, of states 0 to 3 of the first with letters
-     * 0 and 1, those of states 0 to 2 of the second, then the good states of the first and of the second.
+     * Pairs that are hard to tell: their witness has more than 8 letters or, in the last rows, many passages of the
+     * second are to be looked at before a loop of the first. The targets, as bits, of states 0 to 3 of the first with
+     * letters 0 and 1, those of states 0 to 2 of the second, then the good states of the first and of the second.
      */
-    private static final int[][] LONG = {
+    private static final int[][] HARD = {
         {4, 6, 8, 0, 0, 1, 0, 8, 6, 1, 2, 4, 0, 6, 10, 6},
         {0, 4, 8, 3, 12, 3, 2, 10, 3, 4, 1, 7, 7, 2, 4, 4},
         {0, 4, 6, 13, 12, 8, 8, 2, 1, 4, 0, 3, 5, 3, 3, 4},
@@ -37,6 +38,26 @@ public final class OracleTest {
         {0, 4, 2, 12, 2, 1, 9, 9, 3, 2, 3, 4, 4, 1, 8, 2},
         {4, 4, 14, 0, 7, 0, 4, 10, 2, 1, 7, 4, 3, 0, 1, 2},
         {2, 0, 0, 8, 4, 0, 0, 5, 2, 0, 4, 2, 1, 4, 4, 2},
+        {1, 2, 8, 5, 2, 4, 12, 10, 4, 1, 1, 4, 2, 3, 1, 1},
+        {1, 3, 2, 4, 12, 1, 4, 8, 4, 2, 1, 5, 2, 4, 8, 4},
+        {2, 1, 1, 4, 4, 8, 12, 10, 4, 6, 1, 2, 2, 1, 1, 2},
+        {1, 8, 10, 1, 3, 4, 13, 8, 4, 6, 4, 1, 1, 2, 2, 1},
+        {12, 2, 2, 8, 1, 6, 10, 6, 1, 4, 4, 5, 7, 2, 1, 1},
+        {14, 1, 6, 8, 11, 8, 1, 8, 7, 1, 4, 0, 1, 3, 2, 2},
+        {2, 8, 4, 1, 12, 2, 14, 12, 5, 1, 4, 5, 1, 6, 1, 2},
+        {8, 8, 2, 12, 5, 12, 8, 10, 3, 2, 1, 4, 4, 1, 1, 4},
+        {3, 4, 11, 7, 1, 1, 12, 1, 3, 6, 4, 0, 1, 1, 8, 2},
+        {13, 4, 8, 6, 0, 2, 9, 12, 2, 5, 4, 4, 3, 2, 1, 1},
+        {4, 0, 1, 2, 15, 0, 13, 4, 6, 4, 1, 2, 2, 0, 8, 4},
+    };
+
+    /**
+     * Automata of three states with many passages, 252 to 175: their edges with letter 0 and with letter 1, three bits
+     * for each state, and the good states.
+     */
+    private static final int[][] RICH = {
+        {98, 177, 1}, {98, 417, 1}, {116, 98, 2}, {98, 212, 1}, {140, 212, 2}, {98, 394, 1}, {98, 165, 1},
+        {33, 172, 1}, {225, 98, 2}, {86, 98, 1}, {98, 270, 3}, {177, 98, 5}, {85, 98, 7}
     };
 
     private static int wrong = 0;
@@ -574,9 +595,9 @@ public final class OracleTest {
         }
     }
 
-    /** One of the pairs whose witness is long, with some edges or good states turned over. */
-    private static void nearLongRun(int run, Random random) {
-        int[] pair = LONG[run % LONG.length].clone();
+    /** One of the pairs that are hard to tell, with some edges or good states turned over. */
+    private static void nearHardRun(int run, Random random) {
+        int[] pair = HARD[run % HARD.length].clone();
         int turns = random.nextInt(4);
         for (int i = 0; i < turns; i++) {
             int row = random.nextInt(16);
@@ -591,6 +612,35 @@ public final class OracleTest {
         if (model.witness != null && model.witness[0] + model.witness[2] == 8) {
             eightLetters++;
         }
+    }
+
+    /** One of those with many passages, and near it one in which a fourth state stands in for another. */
+    private static void nearCopyRun(int run, Random random) {
+        int[] rich = RICH[run % RICH.length];
+        int[] pair = new int[14];
+        int twin = random.nextInt(3);
+        int turned = random.nextInt(16);
+        for (int row = 0; row < 8; row++) {
+            int from = row / 2 == 3 ? twin : row / 2;
+            int targets = rich[row % 2] >> 3 * from & 7;
+            pair[row] = targets;
+            if ((targets >> twin & 1) != 0 && (turned >> row / 2 & 1) != 0) {
+                pair[row] = targets & ~(1 << twin) | 8;
+            }
+            if (row < 6) {
+                pair[8 + row] = targets;
+            }
+        }
+        int good = rich[2] | (rich[2] >> twin & 1) << 3;
+        for (int turns = random.nextInt(3); turns > 0; turns--) {
+            pair[random.nextInt(8)] ^= 1 << random.nextInt(4);
+        }
+        OmegaDesk desk = new OmegaDesk();
+        Model model = new Model();
+        build(run, desk, model, 0, pair, 0, 4, good);
+        build(run, desk, model, 1, pair, 8, 3, rich[2]);
+        check(run, desk, model, 7, 0, 1);
+        allWitness(run, desk, model);
     }
 
     private static void build(int run, OmegaDesk desk, Model model, int automaton, int[] rows, int first, int n,
@@ -625,8 +675,11 @@ public final class OracleTest {
         for (int run = 10000; run < 10000 + 1500 * factor; run++) {
             pairRun(run, random);
         }
-        for (int run = 20000; run < 20000 + 600 * factor; run++) {
-            nearLongRun(run, random);
+        for (int run = 20000; run < 20000 + 960 * factor; run++) {
+            nearHardRun(run, random);
+        }
+        for (int run = 30000; run < 30000 + 260 * factor; run++) {
+            nearCopyRun(run, random);
         }
         mustHappen("an inclusion that holds", included);
         mustHappen("a witness of at most 8 letters", shortWitness);

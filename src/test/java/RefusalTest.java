@@ -8,7 +8,7 @@ import java.util.Map;
 public final class RefusalTest extends Checks {
     /** Automata of 4, 3, 1, 0, 2 and 2 states. */
     private static final String[] AUTOMATA = {
-        "-g-g 001 012 101 203 213 310", "g-- 000 011 102 200", "g 010", "", "-g 001 100", "gg 011 111"
+        "-gg- 001 012 101 203 213 310", "g-- 000 011 102 200", "g 010", "", "-g 001 100", "gg 011 111"
     };
 
     interface Action {

@@ -2,6 +2,24 @@
 public final class TermsTest extends Checks {
     private static final String ALL_WORDS = "g 000 010";
 
+    /** Automata on which an inclusion has much to look at, and each time something else. */
+    private static final String[] RICH = {
+        "g-- 001 010 102 111 112 200 211",
+        "--g 001 100 102 110 200 212",
+        "g-- 000 011 112 201 210 211",
+        "-g- 002 012 102 110 200 210 211",
+        "g-- 001 012 102 110 112 201 211",
+        "--g 001 011 012 100 110 200 211",
+        "-g- 002 011 012 100 112 210",
+        "-g- 000 002 011 101 112 200 210",
+        "g-- 001 012 102 110 112 211",
+        "--g 002 011 100 110 111 201 212",
+        "--g 001 011 100 102 110 200 211",
+        "g-- 002 011 102 112 201 210 211",
+        "--g 000 011 012 110 201 211",
+        "-g- 002 011 012 100 112 200 210",
+    };
+
     private static void calls() {
         test("An object is used for at most 512 calls: the last of 512 changes", x -> {
             for (int call = 1; call < 512; call++) {
@@ -25,6 +43,18 @@ public final class TermsTest extends Checks {
                 refused("call " + call, () -> x.included(0, 6));
             }
             due("the 512th call, included(0, 5)", true, () -> x.included(0, 5));
+        });
+        test("An object is used for at most 512 calls: one that had dear ones before", x -> {
+            for (int round = 0; round < 2; round++) {
+                for (String text : RICH) {
+                    build(x, 0, text);
+                    due(text + " in itself", true, () -> x.included(0, 0));
+                }
+            }
+            build(x, 0, "---g 002 100 111 200 201 202 203 300 302 303 312");
+            build(x, 1, "--g 001 002 012 100 111 201");
+            due("included(0, 1)", false, () -> x.included(0, 1));
+            noWitness("it is long", x);
         });
         test("Two objects have nothing in common", x -> {
             OmegaDesk y = new OmegaDesk();
